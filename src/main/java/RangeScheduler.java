@@ -588,7 +588,9 @@ public final class RangeScheduler {
             starts[to] = starts[from];
             voterMasks[to] = voterMasks[from];
             leaderNodes[to] = leaderNodes[from];
-            setLearner(to, learnerNodes[from], remainingTicks[from], replacedNodes[from]);
+            learnerNodes[to] = learnerNodes[from];
+            remainingTicks[to] = remainingTicks[from];
+            replacedNodes[to] = replacedNodes[from];
         }
 
         void copyFrom(Ranges other) {
@@ -1047,13 +1049,13 @@ public final class RangeScheduler {
         /** Chooses a node for a range, with a voter that is to be replaced or with NONE. */
         private int choose(int range, int replaced) {
             int best = NONE;
-            int bestRank = Integer.MAX_VALUE;
+            int bestRank = 0;
             for (int node = 0; node < nodes.count; node++) {
-                int held = ranges.replicasOn(node);
-                if (held < nodes.capacities[node] && isFreeFor(range, node)) {
+                if (isFreeFor(range, node)) {
+                    int held = ranges.replicasOn(node);
                     // No node has more replicas than there are ranges: freshness outweighs them.
                     int rank = isFresh(range, replaced, node) ? held : held + MAX_RANGES + 1;
-                    if (rank < bestRank) {
+                    if (held < nodes.capacities[node] && (best == NONE || rank < bestRank)) {
                         best = node;
                         bestRank = rank;
                     }
@@ -1073,7 +1075,12 @@ public final class RangeScheduler {
         }
 
         private int lowestOf(int mask) {
-            return mask == 0 ? NONE : Integer.numberOfTrailingZeros(mask);
+            for (int node = 0; node < nodes.count; node++) {
+                if ((mask & bit(node)) != 0) {
+                    return node;
+                }
+            }
+            return NONE;
         }
 
         private int highestSharingZone(int mask) {

@@ -15,9 +15,11 @@ public final class ActionsTest {
         spread();
         spreadNeedsAFreshNode();
         spreadNeedsAllVotersUp();
+        spreadReplacesTheLastNode();
         splitSize();
         splitSizeNeedsRoomAndNoLearner();
         splitLoad();
+        splitLoadNeedsRoomAndNoLearner();
         merge();
         mergeNeedsSmallSizes();
         mergeNeedsSmallLoads();
@@ -204,6 +206,18 @@ public final class ActionsTest {
         due("spread: tick()", x.tick(), 300);
     }
 
+    private static void spreadReplacesTheLastNode() {
+        RangeScheduler x = nodes(0, 1, 0);
+        x.setReplication(2);
+        x.setNode(1, 0);
+        x.settle(200);
+        due("spread: voters(0)", x.voters(0), 5);
+        x.setNode(1, 1);
+        due("spread: tick()", x.tick(), 300);
+        x.tick();
+        due("spread: voters(0)", x.voters(0), 3);
+    }
+
     private static void splitSize() {
         RangeScheduler x = settled(1, 0);
         x.put(10, 50);
@@ -265,6 +279,33 @@ public final class ActionsTest {
         x.access(55);
         due("split by load: tick()", x.tick(), 501);
         due("split by load: start(2)", x.start(2), 55);
+    }
+
+    private static void splitLoadNeedsRoomAndNoLearner() {
+        RangeScheduler x = new RangeScheduler();
+        x.setLoads(0, 1);
+        for (int i = 1; i < 15; i++) {
+            x.splitAt(9000 + i);
+        }
+        x.access(1);
+        x.access(2);
+        x.access(2);
+        x.access(3);
+        due("split by load: tick()", x.tick(), 500);
+        due("split by load: rangeCount()", x.rangeCount(), 16);
+        due("split by load: load(1)", x.load(1), 1);
+        x.access(4);
+        due("split by load: tick(), with 16 ranges", x.tick(), 0);
+        RangeScheduler y = nodes(0, 1);
+        y.setLoads(0, 1);
+        y.tick();
+        y.put(1, 20);
+        due("split by load: tick(), which repairs", y.tick(), 200);
+        y.access(1);
+        y.access(2);
+        due("split by load: tick(), with a learner", y.tick(), 0);
+        due("split by load: tick(), with a learner", y.tick(), 0);
+        due("split by load: tick()", y.tick(), 500);
     }
 
     private static void merge() {

@@ -39,8 +39,12 @@ public final class PromisesTest {
         leaders();
         undo();
         undoneByEveryUndoable();
+        undoOfRanges();
+        undoOfLearners();
+        undoOfSamples();
         errorCount();
         digest();
+        everythingFull();
         checks.end();
     }
 
@@ -259,6 +263,13 @@ public final class PromisesTest {
         x.access(1);
         due("10: load(0), when 5000 is dropped", x.load(0), 32);
         due("10: load(1)", x.load(1), 0);
+        RangeScheduler y = new RangeScheduler();
+        y.splitAt(5000);
+        for (int i = 0; i < 100; i++) {
+            y.access(i % 3 == 0 ? 5000 + i : i);
+        }
+        due("10: load(1), of the samples 68 to 99", y.load(1), 11);
+        due("10: load(0)", y.load(0), 21);
     }
 
     private static void splitAt() {
@@ -548,6 +559,13 @@ public final class PromisesTest {
         x.splitAt(30);
         due("26: splitKey(0, 1)", x.splitKey(0, 1), 20);
         due("26: splitKey(1, 1), one key", x.splitKey(1, 1), NONE);
+        RangeScheduler y = new RangeScheduler();
+        y.access(12);
+        y.access(11);
+        due("26: splitKey(0, 1), neighbours", y.splitKey(0, 1), 12);
+        y.access(10);
+        y.access(13);
+        due("26: splitKey(0, 1), neighbours", y.splitKey(0, 1), 12);
     }
 
     private static void replicas() {
@@ -630,6 +648,64 @@ public final class PromisesTest {
         }
     }
 
+    private static void undoOfRanges() {
+        RangeScheduler x = cluster(3);
+        x.setSizes(0, 100);
+        x.splitAt(500);
+        x.splitAt(700);
+        x.settle(20);
+        x.splitAt(300);
+        due("29: undo()", x.undo(), 3);
+        due("29: start(1)", x.start(1), 500);
+        due("29: undo()", x.undo(), 2);
+        due("29: start(2)", x.start(2), 700);
+        due("29: leader(0)", x.leader(0), 0);
+        due("29: undo()", x.undo(), 1);
+        due("29: start(1)", x.start(1), 500);
+        due("29: rangeCount()", x.rangeCount(), 2);
+        due("29: undo()", x.undo(), 0);
+        due("29: rangeCount()", x.rangeCount(), 1);
+    }
+
+    private static void undoOfLearners() {
+        RangeScheduler x = cluster(3);
+        x.addNode(3, 16);
+        x.put(1, 50);
+        x.setNode(2, 0);
+        x.tick();
+        x.tick();
+        due("29: undo()", x.undo(), 3);
+        long before = x.digest();
+        due("29: learner(0)", x.learner(0), 603);
+        x.tick();
+        due("29: undo()", x.undo(), 3);
+        due("29: learner(0)", x.learner(0), 603);
+        due("29: digest()", x.digest(), before);
+        x.settle(50);
+        due("29: voters(0)", x.voters(0), 11);
+        due("29: undo()", x.undo(), 3);
+        due("29: voters(0)", x.voters(0), 7);
+        due("29: learner(0)", x.learner(0), 603);
+        due("29: digest(), with the voter that is to be replaced", x.digest(), before);
+    }
+
+    private static void undoOfSamples() {
+        RangeScheduler x = new RangeScheduler();
+        x.splitAt(5000);
+        x.access(9000);
+        for (int i = 0; i < 31; i++) {
+            x.access(i);
+        }
+        x.tick();
+        x.undo();
+        long before = x.digest();
+        x.access(40);
+        due("29: load(1)", x.load(1), 0);
+        due("29: undo()", x.undo(), 3);
+        due("29: load(1), the oldest sample being back", x.load(1), 1);
+        due("29: digest()", x.digest(), before);
+    }
+
     private static void perform(RangeScheduler x, int call) {
         switch (call) {
             case 0: x.addNode(1, 1); break;
@@ -697,5 +773,45 @@ public final class PromisesTest {
         }
         due("31: digest()", x.digest(), h);
         due("31: digest(), which changes nothing", x.digest(), h);
+    }
+
+    /** 8 nodes, 16 ranges, 64 items and 32 samples: no row is left by a call. */
+    private static void everythingFull() {
+        RangeScheduler x = cluster(8);
+        x.setSizes(0, 9999);
+        for (int i = 0; i < 15; i++) {
+            due("full: splitAt(key)", x.splitAt(9985 + i), i + 1);
+        }
+        for (int i = 0; i < 64; i++) {
+            due("full: put(key, 99)", x.put(9936 + i, 99), 0);
+        }
+        for (int i = 0; i < 40; i++) {
+            due("full: access(key)", x.access(9960 + i), 0);
+        }
+        due("full: size(0)", x.size(0), 49 * 99);
+        due("full: splitKey(0, 0)", x.splitKey(0, 0), 9961);
+        due("full: load(0)", x.load(0), 17);
+        due("full: splitKey(0, 1)", x.splitKey(0, 1), 9977);
+        due("full: setNode(0, 0)", x.setNode(0, 0), 16);
+        due("full: setNode(1, 0)", x.setNode(1, 0), 16);
+        due("full: setNode(2, 0)", x.setNode(2, 0), 0);
+        due("full: setNode(2, 1)", x.setNode(2, 1), 16);
+        due("full: setNode(0, 1)", x.setNode(0, 1), 16);
+        due("full: setNode(1, 1)", x.setNode(1, 1), 16);
+        due("full: leaders(2)", x.leaders(2), 6);
+        due("full: leaders(3)", x.leaders(3), 5);
+        due("full: leaders(4)", x.leaders(4), 5);
+        due("full: tick(), which shifts a leader", x.tick(), 700);
+        due("full: settle(200), 5 leaders more for nodes 0 and 1", x.settle(200), 6);
+        for (int node = 0; node < 8; node++) {
+            due("full: replicas(node), no other node being in a fit zone", x.replicas(node), node < 5 ? 16 : 0);
+        }
+        due("full: undo()", x.undo(), 3);
+        x.setSizes(9999, 9999);
+        x.setLoads(32, 32);
+        due("full: tick(), which merges", x.tick(), 600);
+        due("full: rangeCount()", x.rangeCount(), 15);
+        due("full: start(14)", x.start(14), 9999);
+        due("full: errorCount(0)", x.errorCount(0), 0);
     }
 }
