@@ -31,6 +31,7 @@ public final class ActionsTest {
         shiftLeaderTakesTheFewest();
         shiftReplica();
         shiftReplicaNeedsAFitZone();
+        shiftReplicaNeedsACandidate();
         orderOfActions();
         electionCountsOtherRanges();
         checks.end();
@@ -459,6 +460,20 @@ public final class ActionsTest {
         y.addNode(0, 16);
         due("shift replica: tick(), not fresh, but in the zone of the replaced one", y.tick(), 800);
         due("shift replica: learner(0)", y.learner(0), 102);
+    }
+
+    private static void shiftReplicaNeedsACandidate() {
+        RangeScheduler x = settled(1, 0);
+        x.setSizes(0, 100);
+        x.splitAt(10);
+        x.splitAt(20);
+        x.put(5, 50);
+        x.put(15, 50);
+        x.addNode(0, 2);
+        due("shift replica: tick()", x.tick(), 800);
+        due("shift replica: tick()", x.tick(), 801);
+        due("shift replica: tick(), the other node being full", x.tick(), 0);
+        due("shift replica: performed(8)", x.performed(8), 2);
     }
 
     private static void orderOfActions() {
