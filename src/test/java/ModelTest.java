@@ -83,7 +83,7 @@ public final class ModelTest {
     }
 
     private int range() {
-        return in(0, x.rangeCount() - 1);
+        return in(0, m.rangeCount() - 1);
     }
 
     private int node() {
