@@ -1048,25 +1048,22 @@ public final class RangeScheduler {
 
         /** Chooses a node for a range, with a voter that is to be replaced or with NONE. */
         private int choose(int range, int replaced) {
+            int taken = ranges.voterMasks[range] | bit(ranges.learnerNodes[range]);
+            int free = nodes.upMask & ~taken;
             int best = NONE;
             int bestRank = 0;
             for (int node = 0; node < nodes.count; node++) {
-                if (isFreeFor(range, node)) {
-                    int held = ranges.replicasOn(node);
+                int held = ranges.replicasOn(node);
+                if ((free & bit(node)) != 0 && held < nodes.capacities[node]) {
                     // No node has more replicas than there are ranges: freshness outweighs them.
                     int rank = isFresh(range, replaced, node) ? held : held + MAX_RANGES + 1;
-                    if (held < nodes.capacities[node] && (best == NONE || rank < bestRank)) {
+                    if (best == NONE || rank < bestRank) {
                         best = node;
                         bestRank = rank;
                     }
                 }
             }
             return best;
-        }
-
-        private boolean isFreeFor(int range, int node) {
-            return nodes.isUp(node) && (ranges.voterMasks[range] & bit(node)) == 0
-                    && ranges.learnerNodes[range] != node;
         }
 
         private boolean isFresh(int range, int replaced, int node) {

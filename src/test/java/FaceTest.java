@@ -6,6 +6,7 @@ import java.nio.file.Files;
 import java.nio.file.Path;
 import java.util.Set;
 import java.util.TreeSet;
+import java.util.regex.Pattern;
 
 /** The public face, and the rules of LANGUAGE.md that can be read from the class and its text. */
 public final class FaceTest {
@@ -26,6 +27,9 @@ public final class FaceTest {
         "\\bpackage\\b", "->", "::", "Exact\\(", "\\bSystem\\.(?!arraycopy)", "\\bThread\\b", "\\bRandom\\b"
     };
 
+    private static final Pattern METHOD_BEGINS = Pattern.compile("( {4}){1,2}[^ ].*\\) \\{");
+    private static final Pattern METHOD_ENDS = Pattern.compile("( {4}){1,2}\\}");
+
     public static void main(String[] args) throws Exception {
         Class<RangeScheduler> face = RangeScheduler.class;
         checks.isTrue("the class is public and final",
@@ -40,6 +44,7 @@ public final class FaceTest {
                     && !Modifier.isPublic(inside.getModifiers()) && !Modifier.isProtected(inside.getModifiers()));
         }
         text();
+        sizes(face);
         checks.end();
     }
 
@@ -91,7 +96,41 @@ public final class FaceTest {
         String code = text.replaceAll("(?s)/\\*.*?\\*/", " ").replaceAll("//[^\n]*", " ");
         for (String pattern : FORBIDDEN) {
             checks.isTrue("the program is without " + pattern,
-                    !java.util.regex.Pattern.compile(pattern).matcher(code).find());
+                    !Pattern.compile(pattern).matcher(code).find());
+        }
+    }
+
+    /** Rule 11: few parameters, few classes and fields, short methods. */
+    private static void sizes(Class<?> face) throws java.io.IOException {
+        Class<?>[] inside = face.getDeclaredClasses();
+        checks.isTrue("at most 12 classes: " + (inside.length + 1), inside.length + 1 <= 12);
+        sizesOf(face);
+        for (Class<?> one : inside) {
+            sizesOf(one);
+        }
+        int begin = 0;
+        int line = 0;
+        for (String text : Files.readAllLines(Path.of("src/main/java/RangeScheduler.java"))) {
+            line++;
+            if (METHOD_BEGINS.matcher(text).matches()) {
+                begin = line;
+            } else if (METHOD_ENDS.matcher(text).matches()) {
+                checks.isTrue("line " + begin + " begins a short method", line - begin < 60);
+            }
+        }
+        checks.isTrue("the methods are found by their indentation", begin > 0);
+    }
+
+    private static void sizesOf(Class<?> one) {
+        int fields = 0;
+        for (Field field : one.getDeclaredFields()) {
+            if (!Modifier.isStatic(field.getModifiers())) {
+                fields++;
+            }
+        }
+        checks.isTrue(one + " has at most 20 fields: " + fields, fields <= 20);
+        for (Method method : one.getDeclaredMethods()) {
+            checks.isTrue(method + " takes at most 7 parameters", method.getParameterCount() <= 7);
         }
     }
 }
